@@ -18,7 +18,7 @@ public final class FormatPress {
     private final Line outputLine = new Line(OUTPUT_ROOM);
     private final Spec spec = new Spec();
     private final Arguments arguments = new Arguments();
-    private final Composer composer = new Composer();
+    private final Composer composer = new Composer(spec, arguments, outputLine);
     private final NumberReader reader = new NumberReader(rowLine);
     private boolean formatted;
     private int faultKind;
@@ -58,6 +58,7 @@ public final class FormatPress {
         }
         formatLine.moveFrom(rowLine);
         formatted = false;
+        note(Spec.SOUND, 0);
         int specs = 0;
         for (int at = 0; at < formatLine.length(); at++) {
             if (formatLine.at(at) == '%') {
@@ -69,7 +70,6 @@ public final class FormatPress {
                 at = Math.max(at, spec.last());
             }
         }
-        note(Spec.SOUND, -1);
         formatted = true;
         return specs;
     }
@@ -114,11 +114,21 @@ public final class FormatPress {
         if (!formatted) {
             throw new NoSuchElementException("there is no format");
         }
-        int fault = composer.compose(formatLine, arguments, outputLine);
-        note(fault, fault == Spec.SOUND ? -1 : composer.place());
-        if (fault != Spec.SOUND) {
-            outputLine.empty();
-            throw new UnsupportedOperationException("the arguments do not go with the format");
+        outputLine.empty();
+        composer.begin();
+        note(Spec.SOUND, 0);
+        for (int at = 0; at < formatLine.length(); at++) {
+            if (formatLine.at(at) != '%') {
+                note(composer.copy(formatLine.at(at)), at);
+            } else {
+                spec.scan(formatLine, at);
+                note(composer.press(), at);
+                at = Math.max(at, spec.last());
+            }
+            if (faultKind != Spec.SOUND) {
+                outputLine.empty();
+                throw new UnsupportedOperationException("the arguments do not go with the format");
+            }
         }
         return outputLine.length();
     }
@@ -159,9 +169,9 @@ public final class FormatPress {
         return reader.bits();
     }
 
-    private void note(int kindNow, int placeNow) {
-        faultKind = kindNow;
-        faultPlace = kindNow == Spec.SOUND ? -1 : placeNow;
+    private void note(int fault, int at) {
+        faultKind = fault;
+        faultPlace = fault == Spec.SOUND ? -1 : at;
     }
 
     private static int byteOf(long w, int fromBelow) {
@@ -536,7 +546,6 @@ public final class FormatPress {
     private static final class Piece {
         /** The longest: 309 digits with 102 commas, a point, 1100 digits, and two for the sign. */
         private static final int ROOM = 1600;
-        private static final String DIGITS = "0123456789abcdef";
 
         private final byte[] bytes = new byte[ROOM];
         private int length;
@@ -559,13 +568,18 @@ public final class FormatPress {
         }
 
         void addAll(String characters) {
-            for (int i = 0; i < characters.length(); i++) {
+            addFirst(characters, characters.length());
+        }
+
+        void addFirst(String characters, int count) {
+            for (int i = 0; i < Math.min(count, characters.length()); i++) {
                 add(characters.charAt(i));
             }
         }
 
+        /** A digit of sixteen. */
         void addDigit(int digit) {
-            add(DIGITS.charAt(digit & 15));
+            add(digit < 10 ? '0' + digit : 'a' - 10 + digit);
         }
 
         void addZeros(int times) {
@@ -599,23 +613,17 @@ public final class FormatPress {
         void addSize(long v, int atLeast, boolean commas) {
             // below 0, for the lowest long has no size that is a long
             long rest = v < 0 ? v : -v;
-            int digits = Math.min(Math.max(digitsOf(rest), atLeast), Decimal.LONG_DIGITS);
-            for (int i = digits - 1; i >= 0; i--) {
-                addDigit((int) -(rest / Decimal.tenTo(i) % 10));
-                if (commas && i > 0 && i % 3 == 0) {
+            boolean begun = false;
+            for (int i = Decimal.TENS.length - 1; i >= 0; i--) {
+                int digit = (int) -(rest / Decimal.TENS[i] % 10);
+                begun = begun || digit != 0 || i < atLeast;
+                if (begun) {
+                    add('0' + digit);
+                }
+                if (begun && commas && i > 0 && i % 3 == 0) {
                     add(',');
                 }
             }
-        }
-
-        private static int digitsOf(long v) {
-            int digits = 1;
-            long rest = v / 10;
-            for (int i = 0; i < Decimal.LONG_DIGITS && rest != 0; i++) {
-                rest /= 10;
-                digits++;
-            }
-            return digits;
         }
 
         void addSigned(long v) {
@@ -706,15 +714,14 @@ public final class FormatPress {
 
     /** The exact decimal digits of a whole number times a power of two. */
     private static final class Decimal {
-        static final int LONG_DIGITS = 19;
         /** So many digits are looked at when the shortest decimal is sought. */
         static final int HEAD_DIGITS = 18;
-
-        private static final long[] TENS = {
+        static final long[] TENS = {
             1L, 10L, 100L, 1000L, 10000L, 100000L, 1000000L, 10000000L, 100000000L, 1000000000L, 10000000000L,
             100000000000L, 1000000000000L, 10000000000000L, 100000000000000L, 1000000000000000L,
             10000000000000000L, 100000000000000000L, 1000000000000000000L
         };
+
         private static final int LIMB_DIGITS = 9;
         private static final long LIMB_BASE = 1000000000L;
         /** 767 digits are the most of a double; those of its neighbours' halves are few more. */
@@ -728,10 +735,6 @@ public final class FormatPress {
         private int count;
         /** The value is 0.ddd times 10 to the point. */
         private int point;
-
-        static long tenTo(int power) {
-            return TENS[Math.min(Math.max(power, 0), HEAD_DIGITS)];
-        }
 
         /** Takes size times 2 to the exponent, size being 0 or more. */
         void load(long size, int exponent) {
@@ -792,10 +795,6 @@ public final class FormatPress {
             point = count == 0 ? 1 : count + power;
         }
 
-        boolean isZero() {
-            return count == 0;
-        }
-
         int point() {
             return point;
         }
@@ -852,7 +851,7 @@ public final class FormatPress {
         }
 
         private int headDigits(int at) {
-            return Math.min(Math.max(HEAD_DIGITS - at + point, 0), LONG_DIGITS);
+            return Math.min(Math.max(HEAD_DIGITS - at + point, 0), HEAD_DIGITS + 1);
         }
     }
 
@@ -885,13 +884,24 @@ public final class FormatPress {
             decimal.load(4 * size + 2, exponent - 2);
             high = decimal.head(point);
             highGoesOn = decimal.goesOn(point);
-            writeHead(piece, find());
+            long digits = find();
+            if (digits == Decimal.TENS[Decimal.HEAD_DIGITS]) {
+                digits /= 10;
+                point++;
+            }
+            if (point >= PLAIN_FROM && point <= PLAIN_TO) {
+                writePlain(piece, digits, point);
+            } else {
+                writePlain(piece, digits, 1);
+                piece.add('E');
+                piece.addSigned(point - 1);
+            }
         }
 
         /** The decimal as head, with 18 digits, or 10 to the 18. */
         private long find() {
             for (int digits = FEWEST; digits < MOST; digits++) {
-                long unit = Decimal.tenTo(Decimal.HEAD_DIGITS - digits);
+                long unit = Decimal.TENS[Decimal.HEAD_DIGITS - digits];
                 long below = value - value % unit;
                 boolean exact = below == value && !valueGoesOn;
                 long above = exact ? below : below + unit;
@@ -904,7 +914,7 @@ public final class FormatPress {
                     return belowReads ? below : above;
                 }
             }
-            long unit = Decimal.tenTo(Decimal.HEAD_DIGITS - MOST);
+            long unit = Decimal.TENS[Decimal.HEAD_DIGITS - MOST];
             long below = value - value % unit;
             return nearer(below, below + unit, unit);
         }
@@ -925,38 +935,24 @@ public final class FormatPress {
             return twice >= unit ? above : below;
         }
 
-        private void writeHead(Piece piece, long head) {
-            boolean longer = head >= Decimal.tenTo(Decimal.HEAD_DIGITS);
-            int before = longer ? point + 1 : point;
-            // 10 to the 18 has its only digit that is not 0 in front, so the last one is not missed
-            long digits = longer ? head / 10 : head;
-            if (before >= PLAIN_FROM && before <= PLAIN_TO) {
-                writePlain(piece, digits, before);
-            } else {
-                writePlain(piece, digits, 1);
-                piece.add('E');
-                piece.addSigned(before - 1);
-            }
-        }
-
         /** Writes 0.ddd of the 18 digits times 10 to before, with a digit on both sides of the point. */
         private static void writePlain(Piece piece, long digits, int before) {
             if (before <= 0) {
                 piece.add('0');
             }
             for (int i = 0; i < before; i++) {
-                piece.addDigit(digitOf(digits, i));
+                piece.add(digitOf(digits, i));
             }
             piece.add('.');
             for (int i = before; i < Math.max(endOf(digits), before + 1); i++) {
-                piece.addDigit(digitOf(digits, i));
+                piece.add(digitOf(digits, i));
             }
         }
 
         /** The place behind the last digit that is not 0. */
         private static int endOf(long digits) {
             int end = Decimal.HEAD_DIGITS;
-            while (end > 0 && digitOf(digits, end - 1) == 0) {
+            for (long rest = digits; end > 0 && rest % 10 == 0; rest /= 10) {
                 end--;
             }
             return end;
@@ -964,14 +960,14 @@ public final class FormatPress {
 
         private static int digitOf(long digits, int i) {
             boolean there = i >= 0 && i < Decimal.HEAD_DIGITS;
-            return there ? (int) (digits / Decimal.tenTo(Decimal.HEAD_DIGITS - 1 - i) % 10) : 0;
+            return there ? '0' + (int) (digits / Decimal.TENS[Decimal.HEAD_DIGITS - 1 - i] % 10) : '0';
         }
     }
 
     /** Writes reals by e, f, g, a and s. */
     private static final class RealWriter {
         private static final int USUAL_PRECISION = 6;
-        private static final int LOWEST_PLAIN_EXPONENT = -4;
+        private static final int LOWEST_PLAIN_POWER = -4;
         private static final int SIXTEENS = 13;
         private static final int FRACTION_BITS = 52;
         private static final int LOWEST_EXPONENT = -1074;
@@ -1053,18 +1049,17 @@ public final class FormatPress {
             if (spec.conversion() == 'e') {
                 decimal.round(precision + 1);
                 writeScientific(piece, spec, precision);
-            } else if (spec.conversion() == 'f') {
+                return;
+            }
+            if (spec.conversion() == 'f') {
                 decimal.round(decimal.point() + precision);
                 writeFixed(piece, spec, precision);
-            } else {
-                writeGeneral(piece, spec, Math.max(precision, 1));
+                return;
             }
-        }
-
-        private void writeGeneral(Piece piece, Spec spec, int digits) {
+            int digits = Math.max(precision, 1);
             decimal.round(digits);
             int power = decimal.point() - 1;
-            if (power >= LOWEST_PLAIN_EXPONENT && power < digits) {
+            if (power >= LOWEST_PLAIN_POWER && power < digits) {
                 writeFixed(piece, spec, digits - 1 - power);
             } else {
                 writeScientific(piece, spec, digits - 1);
@@ -1077,7 +1072,7 @@ public final class FormatPress {
                 piece.add('0');
             }
             for (int i = 0; i < before; i++) {
-                piece.addDigit(decimal.digitAt(i));
+                piece.add('0' + decimal.digitAt(i));
                 int left = before - 1 - i;
                 if (spec.has(Spec.COMMAS) && left > 0 && left % 3 == 0) {
                     piece.add(',');
@@ -1087,7 +1082,7 @@ public final class FormatPress {
         }
 
         private void writeScientific(Piece piece, Spec spec, int decimals) {
-            piece.addDigit(decimal.digitAt(0));
+            piece.add('0' + decimal.digitAt(0));
             writeBehindPoint(piece, spec, 1, decimals);
             int power = decimal.point() - 1;
             piece.add('e');
@@ -1100,7 +1095,7 @@ public final class FormatPress {
                 piece.add('.');
             }
             for (int i = 0; i < decimals; i++) {
-                piece.addDigit(decimal.digitAt(from + i));
+                piece.add('0' + decimal.digitAt(from + i));
             }
         }
 
@@ -1117,7 +1112,7 @@ public final class FormatPress {
             piece.add('.');
             int digits = precision > 0 ? precision : sixteensNeeded();
             for (int i = 1; i <= Math.min(digits, SIXTEENS); i++) {
-                piece.addDigit((int) (size >>> FRACTION_BITS - 4 * i));
+                piece.addDigit((int) (size >>> FRACTION_BITS - 4 * i) & 15);
             }
             piece.addZeros(digits - SIXTEENS);
             piece.add('p');
@@ -1262,13 +1257,13 @@ public final class FormatPress {
                     piece.addAll(monthName());
                     return;
                 case 'b':
-                    piece.addAll(monthName().substring(0, 3));
+                    piece.addFirst(monthName(), 3);
                     return;
                 case 'A':
                     piece.addAll(dayName());
                     return;
                 case 'a':
-                    piece.addAll(dayName().substring(0, 3));
+                    piece.addFirst(dayName(), 3);
                     return;
                 default:
                     writeTime(piece, suffix);
@@ -1382,58 +1377,59 @@ public final class FormatPress {
         }
     }
 
-    /** Runs a format on arguments. */
+    /** Writes what the specs of a format make of the arguments, one after the other. */
     private static final class Composer {
         private static final int NO_ARGUMENT = 8;
         private static final int OTHER_KIND = 9;
         private static final int NO_CHARACTER = 10;
         private static final int TOO_LONG = 11;
 
-        private final Spec spec = new Spec();
+        private final Spec spec;
+        private final Arguments arguments;
+        private final Line output;
         private final Piece piece = new Piece();
         private final RealWriter reals = new RealWriter();
         private final Moment moment = new Moment();
-        private int place;
         /** The last argument taken by a spec without a number. */
         private int ordinary;
         /** The argument of the latest spec that took one, 0 before. */
-        private int previous;
+        private int latest;
+        private int sort;
+        private long value;
 
-        /** Writes to the output, which is emptied; answers the fault. */
-        int compose(Line format, Arguments arguments, Line output) {
-            output.empty();
+        Composer(Spec spec, Arguments arguments, Line output) {
+            this.spec = spec;
+            this.arguments = arguments;
+            this.output = output;
+        }
+
+        void begin() {
             ordinary = 0;
-            previous = 0;
-            for (int at = 0; at < format.length(); at++) {
-                place = at;
-                int fault;
-                if (format.at(at) == '%') {
-                    fault = composeSpec(format, arguments, output);
-                    at = Math.max(at, spec.last());
-                } else {
-                    fault = output.fits(1) ? Spec.SOUND : TOO_LONG;
-                    output.add(format.at(at));
-                }
-                if (fault != Spec.SOUND) {
-                    return fault;
-                }
+            latest = 0;
+        }
+
+        /** Writes a byte that stands for itself; answers the fault. */
+        int copy(int b) {
+            if (!output.fits(1)) {
+                return TOO_LONG;
             }
+            output.add(b);
             return Spec.SOUND;
         }
 
-        /** Where the latest spec or byte is. */
-        int place() {
-            return place;
-        }
-
-        private int composeSpec(Line format, Arguments arguments, Line output) {
-            int fault = spec.scan(format, place);
+        /** Writes what the spec says; answers the fault. */
+        int press() {
             piece.start();
-            if (fault == Spec.SOUND) {
-                fault = fillPiece(arguments);
-            }
-            if (fault != Spec.SOUND) {
-                return fault;
+            if (spec.conversion() == '%') {
+                piece.add('%');
+            } else if (spec.conversion() == 'n') {
+                piece.add(10);
+            } else {
+                int fault = choose();
+                if (fault != Spec.SOUND) {
+                    return fault;
+                }
+                writeArgument();
             }
             if (spec.capital()) {
                 piece.toCapitals();
@@ -1441,36 +1437,24 @@ public final class FormatPress {
             return piece.writeTo(output, spec.width(), spec.has(Spec.LEFT)) ? Spec.SOUND : TOO_LONG;
         }
 
-        private int fillPiece(Arguments arguments) {
-            if (spec.conversion() == '%' || spec.conversion() == 'n') {
-                piece.add(spec.conversion() == '%' ? '%' : 10);
-                return Spec.SOUND;
-            }
+        /** Chooses the argument and looks whether it goes with the conversion; answers the fault. */
+        private int choose() {
             int number = pick();
             if (number < 1 || number > arguments.count()) {
                 return NO_ARGUMENT;
             }
-            previous = number;
-            int sort = arguments.sort(number);
-            long value = arguments.value(number);
-            if (!goesWith(sort)) {
+            latest = number;
+            sort = arguments.sort(number);
+            value = arguments.value(number);
+            if (!goesTogether()) {
                 return OTHER_KIND;
             }
-            if (spec.conversion() == 'c' && !Arguments.isCharacter(value)) {
-                return NO_CHARACTER;
-            }
-            if (sort == Arguments.NOTHING) {
-                piece.addAll(spec.conversion() == 'b' ? "false" : "null");
-                piece.cut(spec.precision());
-            } else {
-                writeArgument(arguments, number, sort, value);
-            }
-            return Spec.SOUND;
+            return spec.conversion() == 'c' && !Arguments.isCharacter(value) ? NO_CHARACTER : Spec.SOUND;
         }
 
         private int pick() {
             if (spec.number() == Spec.PREVIOUS) {
-                return previous;
+                return latest;
             }
             if (spec.number() != Spec.NEXT) {
                 return spec.number();
@@ -1479,7 +1463,7 @@ public final class FormatPress {
             return ordinary;
         }
 
-        private boolean goesWith(int sort) {
+        private boolean goesTogether() {
             if (sort == Arguments.NOTHING) {
                 return true;
             }
@@ -1502,27 +1486,32 @@ public final class FormatPress {
             }
         }
 
-        private void writeArgument(Arguments arguments, int number, int sort, long value) {
+        private void writeArgument() {
+            if (sort == Arguments.NOTHING) {
+                piece.addAll(spec.conversion() == 'b' ? "false" : "null");
+                piece.cut(spec.precision());
+                return;
+            }
             switch (spec.conversion()) {
                 case 'b':
                     piece.addAll(sort == Arguments.TRUTH && value == 0 ? "false" : "true");
                     piece.cut(spec.precision());
                     return;
                 case 's':
-                    writeAny(arguments, number, sort, value);
+                    writeAny();
                     piece.cut(spec.precision());
                     return;
                 case 'c':
                     piece.addCharacter((int) value);
                     return;
                 case 'd':
-                    writeWhole(value);
+                    writeWhole();
                     return;
                 case 'o':
-                    writeBits("0", value, sort, 3);
+                    writeBits("0", 3);
                     return;
                 case 'x':
-                    writeBits("0x", value, sort, 4);
+                    writeBits("0x", 4);
                     return;
                 case 't':
                     moment.take(value);
@@ -1533,7 +1522,8 @@ public final class FormatPress {
             }
         }
 
-        private void writeAny(Arguments arguments, int number, int sort, long value) {
+        /** As by s. */
+        private void writeAny() {
             switch (sort) {
                 case Arguments.TRUTH:
                     piece.addAll(value == 0 ? "false" : "true");
@@ -1547,7 +1537,7 @@ public final class FormatPress {
                     return;
                 case Arguments.TEXT:
                     for (int i = 0; i < Math.min(value, Arguments.TEXT_ROOM); i++) {
-                        piece.add(arguments.textByte(number, i));
+                        piece.add(arguments.textByte(latest, i));
                     }
                     return;
                 default:
@@ -1555,14 +1545,14 @@ public final class FormatPress {
             }
         }
 
-        private void writeWhole(long value) {
+        private void writeWhole() {
             piece.open(value < 0, spec);
             piece.markZeros(spec);
             piece.addSize(value, 1, spec.has(Spec.COMMAS));
             piece.close(value < 0, spec);
         }
 
-        private void writeBits(String before, long value, int sort, int digitBits) {
+        private void writeBits(String before, int digitBits) {
             if (spec.has(Spec.OTHER_FORM)) {
                 piece.addAll(before);
             }
@@ -1578,6 +1568,7 @@ public final class FormatPress {
         private static final int SMALL_LETTER = 32;
         private static final long NAN = 0x7FF8000000000000L;
         private static final long SMALL_NAN = 0x7FC00000L;
+        private static final long SIGN = 0x8000000000000000L;
         private static final long SMALL_SIGN = 0x80000000L;
         /** Far beyond all that the digits of a row can make good. */
         private static final int HIGHEST_EXPONENT = 100000;
@@ -1761,7 +1752,7 @@ public final class FormatPress {
             if (!negative) {
                 return size;
             }
-            return small ? (int) (size | SMALL_SIGN) : size | Long.MIN_VALUE;
+            return small ? (int) (size | SMALL_SIGN) : size | SIGN;
         }
     }
 
