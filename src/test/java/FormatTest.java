@@ -1,3 +1,7 @@
+import java.util.Random;
+import java.util.regex.Matcher;
+import java.util.regex.Pattern;
+
 /** Promises 3, 9 and 10: format, and the kind and place of its fault. */
 public final class FormatTest {
     public static void main(String[] args) {
@@ -8,6 +12,7 @@ public final class FormatTest {
         firstFault();
         whatStays();
         theLimit();
+        manyFormats();
         Bench.end();
     }
 
@@ -162,5 +167,70 @@ public final class FormatTest {
         Bench.same("400", Bench.format(press, "%n".repeat(200)), "200");
         Bench.same("run", press.run(), 200);
         faulty("x".repeat(399) + "%", 1, 399);
+    }
+
+    private static final Pattern SPEC = Pattern.compile(
+        "%(?:([1-9]\\d{0,3})\\$|<|(?!\\d+\\$))([-#+ 0,(]*)([1-9]\\d{0,3})?(?:\\.(\\d{1,4}))?([bBsScCdoxXeEfgGaA%n]|[tT][HIklMSLYyCmdejBbAapsQRTrDF])");
+
+    /** What a pattern makes of formats of random parts. */
+    private static void manyFormats() {
+        Random random = new Random(31);
+        String[] parts = {
+            "%", "%", "%", "d", "s", "f", "e", "g", "a", "x", "o", "c", "b", "n", "tH", "TF", "t", "-", "#", "+", " ", "0", ",", "(", "1", "5", "1$", "<",
+            ".", ".3", "12", "2000", "1100", ".1100", ".1101", "2001", "$", "A", "z", "%5d", "%-9s", "%n",
+        };
+        for (int i = 0; i < 40000; i++) {
+            StringBuilder b = new StringBuilder("%");
+            int count = 1 + random.nextInt(7);
+            for (int k = 0; k < count; k++) {
+                b.append(parts[random.nextInt(parts.length)]);
+            }
+            asByPattern(b.toString());
+        }
+    }
+
+    private static void asByPattern(String format) {
+        Matcher matcher = SPEC.matcher(format);
+        int specs = 0;
+        int at = format.indexOf('%');
+        while (at >= 0) {
+            boolean there = matcher.find(at) && matcher.start() == at;
+            int fault = there ? faultOf(matcher) : 1;
+            if (fault != 0) {
+                faulty(format, fault, at);
+                return;
+            }
+            specs++;
+            at = format.indexOf('%', matcher.end());
+        }
+        counted(format, specs);
+    }
+
+    private static int faultOf(Matcher spec) {
+        String flags = spec.group(2);
+        int width = spec.group(3) == null ? 0 : Integer.parseInt(spec.group(3));
+        int precision = spec.group(4) == null ? -1 : Integer.parseInt(spec.group(4));
+        String conversion = spec.group(5).substring(0, 1).toLowerCase();
+        if (width > 2000 || precision > 1100) {
+            return 1;
+        }
+        if (flags.chars().distinct().count() < flags.length()) {
+            return 2;
+        }
+        String taken = "d-+ 0,(|o-#0|x-#0|e-#+ 0(|f-#+ 0,(|g-+ 0,(|a-#+ 0|b-|s-|c-|t-|n|%-";
+        String own = taken.substring(taken.indexOf(conversion)).split("\\|")[0];
+        if (flags.chars().anyMatch(flag -> own.indexOf(flag, 1) < 0)) {
+            return 3;
+        }
+        if (width == 0 && (flags.contains("-") || flags.contains("0"))) {
+            return 4;
+        }
+        if (flags.contains("-") && flags.contains("0") || flags.contains("+") && flags.contains(" ")) {
+            return 5;
+        }
+        if (width > 0 && conversion.equals("n")) {
+            return 6;
+        }
+        return precision >= 0 && "cdoxt%n".contains(conversion) ? 7 : 0;
     }
 }
