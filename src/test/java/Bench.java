@@ -3,6 +3,8 @@ import java.nio.charset.StandardCharsets;
 /** What the tests share: feeding an object with texts, reading its output, and telling what is wrong. */
 final class Bench {
     private static int wrong = 0;
+    private static int uses = 0;
+    private static FormatPress used;
 
     private Bench() {
     }
@@ -96,9 +98,19 @@ final class Bench {
         return bytes;
     }
 
-    /** What a format writes of arguments on a new object; of a fault its kind and place. */
+    /** An object that is used four times, so that what an earlier use leaves behind shows; empty but for that. */
+    static FormatPress usedPress() {
+        if (uses % 4 == 0) {
+            used = new FormatPress();
+        }
+        uses++;
+        used.clear();
+        return used;
+    }
+
+    /** What a format writes of arguments; of a fault its kind and place. */
     static String written(String format, Object... arguments) {
-        FormatPress press = new FormatPress();
+        FormatPress press = usedPress();
         for (Object o : arguments) {
             argument(press, o);
         }

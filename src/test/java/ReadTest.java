@@ -14,7 +14,7 @@ public final class ReadTest {
     }
 
     private static String read(String text, boolean small) {
-        FormatPress press = new FormatPress();
+        FormatPress press = Bench.usedPress();
         Bench.row(press, text);
         String told = Bench.told(() -> press.read(small));
         Bench.same("row is empty behind " + text, press.row(0, 0, false), 0);
