@@ -831,7 +831,7 @@ public final class FormatPress {
             point++;
         }
 
-        /** The value times 10 to the (18 - at), downwards; at is the point or one more or one less. */
+        /** The value times 10 to the (18 - at), without what is behind the point; at is near the value's own point. */
         long head(int at) {
             long sum = 0;
             for (int i = 0; i < headDigits(at); i++) {
@@ -893,8 +893,8 @@ public final class FormatPress {
                 writePlain(piece, digits, point);
             } else {
                 writePlain(piece, digits, 1);
-                piece.add('E');
-                piece.addSigned(point - 1);
+                piece.addAll(point < 1 ? "E-" : "E");
+                piece.addSize(point - 1, 1, false);
             }
         }
 
@@ -1265,11 +1265,21 @@ public final class FormatPress {
                 case 'a':
                     piece.addFirst(dayName(), 3);
                     return;
+                case 'p':
+                    piece.addAll(hour() < 12 ? "am" : "pm");
+                    return;
+                case 's':
+                    piece.addSigned(Math.floorDiv(millis, 1000L));
+                    return;
+                case 'Q':
+                    piece.addSigned(millis);
+                    return;
                 default:
                     writeTime(piece, suffix);
             }
         }
 
+        /** Y, y or else C. */
         private void writeYear(Piece piece, int suffix) {
             switch (suffix) {
                 case 'Y':
@@ -1286,6 +1296,7 @@ public final class FormatPress {
             }
         }
 
+        /** H, I, k, l, M, S or else L. */
         private void writeTime(Piece piece, int suffix) {
             switch (suffix) {
                 case 'H':
@@ -1306,17 +1317,8 @@ public final class FormatPress {
                 case 'S':
                     piece.addSize(millisOfDay / 1000 % 60, 2, false);
                     return;
-                case 'L':
-                    piece.addSize(millisOfDay % 1000, 3, false);
-                    return;
-                case 'p':
-                    piece.addAll(hour() < 12 ? "am" : "pm");
-                    return;
-                case 's':
-                    piece.addSigned(Math.floorDiv(millis, 1000L));
-                    return;
                 default:
-                    piece.addSigned(millis);
+                    piece.addSize(millisOfDay % 1000, 3, false);
             }
         }
 

@@ -72,7 +72,7 @@ public final class ReadTest {
             "", " ", "+", "-", ".", "+.", "e5", ".e5", "1e", "1e+", "1e-", "1e5.", "1.2.3", "..1", "1..", "--1", "+-1", "- 1", "1 2", "1e 5",
             "NaNf", "NaN1", "nan", "NAN", "Infinityd", "infinity", "Inf", "Infinit", "Infinityy", "0x", "0x1", "0x1.8", "0x.p1", "0xp1",
             "0x1p", "0x1p+", "0x1p1.", "0xg.1p1", "0x1.8e1", "x1p1", "1p1", "0x-1p1", "1ff", "1fd", "1dd", "1g", "1L", "f", "d", "1_0", "1,0",
-            "1\1772", "\177", "1\177", "0 x1p1", "00x1p1", "0x1p1p1", "1e1e1", "1f.", ".f", "0xp", "0x.", "1e1x", "%d",
+            "1\1772", "\177", "1\177", "0 x1p1", "00x1p1", "0x1p1p1", "1e1e1", "1f.", ".f", "0xp", "0x.", "1e1x", "%d", "!1", "1!",
         };
         for (String text : texts) {
             Bench.same(text, read(text, false), "IllegalArgumentException");

@@ -176,6 +176,7 @@ public final class RealsTest {
                 Bench.writes(shortest(new BigDecimal(f), f, true), "%s", f);
             }
         }
+        exactHalves(random);
         for (int power = -149; power < 128; power++) {
             float f = (float) Math.pow(2, power);
             Bench.writes(shortest(new BigDecimal(f), f, true), "%s", f);
@@ -183,6 +184,22 @@ public final class RealsTest {
         for (int power = -1074; power < 1024; power++) {
             double d = Math.pow(2, power);
             Bench.writes(shortest(new BigDecimal(d), d, false), "%s", d);
+        }
+    }
+
+    /** Short decimals at the very middle of two reals read as the even one alone. */
+    private static void exactHalves(Random random) {
+        for (int power = 5; power <= 23; power++) {
+            BigInteger fives = BigInteger.valueOf(5).pow(power);
+            BigInteger least = BigInteger.TWO.pow(53).divide(fives).add(BigInteger.ONE);
+            for (int i = 0; i < 40; i++) {
+                BigInteger odd = least.add(new BigInteger(least.bitLength() + 1, random).mod(least)).setBit(0);
+                BigDecimal half = new BigDecimal(odd.multiply(BigInteger.TEN.pow(power)).shiftLeft(random.nextInt(6)));
+                double near = half.doubleValue();
+                for (double d : new double[] {near, Math.nextUp(near), Math.nextDown(near)}) {
+                    Bench.writes(shortest(new BigDecimal(d), d, false), "%s", d);
+                }
+            }
         }
     }
 
