@@ -5,15 +5,21 @@ final class Bench {
     private static int wrong = 0;
     private static int uses = 0;
     private static FormatPress used;
+    private static String sentence = "";
 
     private Bench() {
+    }
+
+    /** The sentence of the document that is tested from here on: it is told with each wrong answer. */
+    static void says(String words) {
+        sentence = "\"" + words + "\": ";
     }
 
     static void same(String what, Object got, Object due) {
         if (!due.equals(got)) {
             wrong++;
             if (wrong <= 50) {
-                System.out.println(what + " answered " + got + ", due is " + due);
+                System.out.println(sentence + what + " answered " + got + ", due is " + due);
             }
         }
     }
@@ -87,6 +93,24 @@ final class Bench {
         } else {
             text(press, (String) o);
         }
+    }
+
+    /** What a run of the object's own FORMAT writes, a byte a character; of a fault or no FORMAT the exception. */
+    static String ran(FormatPress press) {
+        String told = told(press::run);
+        return told.matches("\\d+") ? new String(bytes(press, Integer.parseInt(told)), StandardCharsets.ISO_8859_1) : told;
+    }
+
+    /** The kind and place of the latest fault, as "kind place". */
+    static String fault(FormatPress press) {
+        return press.kind() + " " + press.place();
+    }
+
+    /** What ROW holds, a byte a character; ROW must be short enough for a text, and there must be room for one. */
+    static String takenRow(FormatPress press) {
+        int number = press.text();
+        format(press, "%" + number + "$s");
+        return ran(press);
     }
 
     /** OUTPUT, of so many bytes. */
