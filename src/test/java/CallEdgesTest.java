@@ -279,7 +279,8 @@ public final class CallEdgesTest {
         Bench.same("1114111", asByS(2, 1114111), "\u00f4\u008f\u00bf\u00bf");
         Bench.says("5: 3, 4, 5, 6 WHOLE ones of 8, 16, 32, 64 bits (the low ones of v)");
         long[] values = {
-            0, -1, 127, 128, -128, -129, 255, 256, 32767, 32768, -32768, -32769, 65535, 65536, 0x7FFFFFFFL, 0x80000000L, -0x80000000L, -0x80000001L,
+            0, -1, 127, 128, -128, -129, 255, 256, 32767, 32768, -32768, -32769, 65535, 65536, 0x7FFFFFFFL, 0x80000000L,
+            -0x80000000L, -0x80000001L,
             0xFFFFFFFFL, 0x100000000L, Long.MAX_VALUE, Long.MIN_VALUE, 0x123456789ABCDEF0L,
         };
         for (long v : values) {

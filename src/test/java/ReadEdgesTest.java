@@ -54,7 +54,8 @@ public final class ReadEdgesTest {
                 reads(one + "NaN" + one, Double.NaN, Float.NaN);
                 reads(one + "-Infinity" + one, Double.NEGATIVE_INFINITY, Float.NEGATIVE_INFINITY);
                 reads(one + "0x1p1" + one, 2.0, 2.0f);
-                refused("1" + one + "5", "-" + one + "15", "1" + one + "e1", "1e" + one + "1", "0" + one + "x1p1", "0x" + one + "1p1", "15" + one + "f", "Na" + one + "N");
+                refused("1" + one + "5", "-" + one + "15", "1" + one + "e1", "1e" + one + "1", "0" + one + "x1p1",
+                    "0x" + one + "1p1", "15" + one + "f", "Na" + one + "N");
                 refused(one, one + one);
             }
         }
@@ -81,7 +82,8 @@ public final class ReadEdgesTest {
         reads("Infinity", Double.POSITIVE_INFINITY, Float.POSITIVE_INFINITY);
         reads("+Infinity", Double.POSITIVE_INFINITY, Float.POSITIVE_INFINITY);
         reads("-Infinity", Double.NEGATIVE_INFINITY, Float.NEGATIVE_INFINITY);
-        refused("Infinit", "Infinityy", "infinity", "INFINITY", "Inf", "I", "NaNN", "Na", "N", "nan", "NAN", "NaN0", "0NaN", "Infinity0", "1Infinity", "NaNe1", "Infinitye1");
+        refused("Infinit", "Infinityy", "infinity", "INFINITY", "Inf", "I", "NaNN", "Na", "N", "nan", "NAN", "NaN0", "0NaN",
+            "Infinity0", "1Infinity", "NaNe1", "Infinitye1");
         Bench.says("4 (NaN is 7FC00000, of 64 bits 7FF8000000000000, in sixteens, whatever its sign)");
         for (String nan : new String[] {"NaN", "+NaN", "-NaN"}) {
             Bench.same(nan, read(nan, false), Long.toString(0x7FF8000000000000L));
@@ -140,8 +142,10 @@ public final class ReadEdgesTest {
         reads("0xep0", 14.0, 14.0f);
         reads("0xfp0f", 15.0, 15.0f);
         reads("0xdp0d", 13.0, 13.0f);
-        refused("0x", "0x1", "0x1.8", "0xp0", "0x.p0", "0x1p", "0x1p+", "0x1p-", "0x1pf", "0x1pa", "0x1p1.", "0x1p.1", "0x1p1p1", "0x1..8p1", "0x1.8.p1");
-        refused("0xg.p1", "0xGp0", "x1p1", "1x1p1", "00x1p1", "0x0x1p1", "0x1e5", "0x1f", "0x1 p1", "0x@p0", "0x`p0", "0x:p0", "0x/p0", "0xInfinity", "0xNaN");
+        refused("0x", "0x1", "0x1.8", "0xp0", "0x.p0", "0x1p", "0x1p+", "0x1p-", "0x1pf", "0x1pa", "0x1p1.", "0x1p.1", "0x1p1p1",
+            "0x1..8p1", "0x1.8.p1");
+        refused("0xg.p1", "0xGp0", "x1p1", "1x1p1", "00x1p1", "0x0x1p1", "0x1e5", "0x1f", "0x1 p1", "0x@p0", "0x`p0", "0x:p0",
+            "0x/p0", "0xInfinity", "0xNaN");
     }
 
     private static void letterBehind() {
@@ -153,7 +157,8 @@ public final class ReadEdgesTest {
             reads("1e1" + letter, 10.0, 10.0f);
             reads("0x1p1" + letter, 2.0, 2.0f);
             reads("0x.8p1" + letter + " ", 1.0, 1.0f);
-            refused("1" + letter + "f", "1" + letter + "D", "1" + letter + "1", "1" + letter + "e1", "1e" + letter, "." + letter, letter, "+" + letter, "1 " + letter);
+            refused("1" + letter + "f", "1" + letter + "D", "1" + letter + "1", "1" + letter + "e1", "1e" + letter, "." + letter,
+                letter, "+" + letter, "1 " + letter);
         }
         // the letter does not tell the width
         reads("0.1f", 0.1, 0.1f);

@@ -46,7 +46,8 @@ public final class RealEdgesTest {
         Bench.writes("1e+00|1e+09|1e+10|1e+99|1e+100|1e+308", "%.0e|%.0e|%.0e|%.0e|%.0e|%.0e", 1.0, 1E9, 1E10, 1E99, 1E100, 1E308);
         Bench.writes("1e-01|1e-09|1e-10|1e-99|1e-100|1e-308", "%.0e|%.0e|%.0e|%.0e|%.0e|%.0e", 0.1, 1E-9, 1E-10, 1E-99, 1E-100, 1E-308);
         Bench.writes("1e+10|1e+100|1e-09|1e-99|1e+00", "%.0e|%.0e|%.0e|%.0e|%.0e", 9.6E9, 9.6E99, 9.6E-10, 9.6E-100, 0.96);
-        Bench.writes("4.940656e-324|1.797693e+308|2.225074e-308|5e-324|2e+308", "%1$e|%2$e|%3$e|%1$.0e|%2$.0e", Double.MIN_VALUE, Double.MAX_VALUE, Double.MIN_NORMAL);
+        Bench.writes("4.940656e-324|1.797693e+308|2.225074e-308|5e-324|2e+308", "%1$e|%2$e|%3$e|%1$.0e|%2$.0e", Double.MIN_VALUE,
+            Double.MAX_VALUE, Double.MIN_NORMAL);
         Bench.writes("1.401298e-45|3.402823e+38|1.175494e-38", "%e|%e|%e", Float.MIN_VALUE, Float.MAX_VALUE, Float.MIN_NORMAL);
     }
 
@@ -61,7 +62,8 @@ public final class RealEdgesTest {
         Bench.writes("0." + "0".repeat(323) + "5", "%.324f", Double.MIN_VALUE);
         Bench.writes("0." + "0".repeat(323), "%.323f", Double.MIN_VALUE);
         Bench.writes("0." + "0".repeat(322) + "1", "%.323f", 2 * Double.MIN_VALUE);
-        Bench.writes(new BigDecimal(Float.MAX_VALUE).toPlainString() + "|340282346638528859811704183484516925440", "%1$.0f|%1$.0f", Float.MAX_VALUE);
+        Bench.writes(new BigDecimal(Float.MAX_VALUE).toPlainString() + "|340282346638528859811704183484516925440", "%1$.0f|%1$.0f",
+            Float.MAX_VALUE);
         Bench.writes("9|10|99|100|0|1", "%.0f|%.0f|%.0f|%.0f|%.0f|%.0f", 9.49, 9.51, 99.49, 99.51, 0.49, 0.51);
     }
 
@@ -97,7 +99,8 @@ public final class RealEdgesTest {
     private static void generalPrecision() {
         Bench.says("g: rounded to as many digits as the precision (6; 0 is 1)");
         Bench.writes("1.00000|1|1|1.0|1.00", "%1$g|%1$.0g|%1$.1g|%1$.2g|%1$.3g", 1.0);
-        Bench.writes("123456|123457|1e+05|1.2e+05|123456.7890", "%g|%g|%.0g|%.2g|%.10g", 123456.0, 123456.789, 123456.0, 123456.0, 123456.789);
+        Bench.writes("123456|123457|1e+05|1.2e+05|123456.7890", "%g|%g|%.0g|%.2g|%.10g", 123456.0, 123456.789, 123456.0, 123456.0,
+            123456.789);
         Bench.writes("0.500000|0.0500000|0.5|0.05", "%g|%g|%.1g|%.0g", 0.5, 0.05, 0.5, 0.05);
         Bench.writes("1." + "0".repeat(1099), "%.1100g", 1.0);
         BigDecimal large = new BigDecimal(Double.MAX_VALUE);
@@ -112,7 +115,8 @@ public final class RealEdgesTest {
         Bench.writes("0.000100000|0.0001|0.0001|0.00010", "%1$g|%1$.0g|%1$.1g|%1$.2g", 0.0001);
         Bench.writes("9.99990e-05|0.0001", "%1$g|%1$.1g", 0.000099999);
         Bench.writes("9.99999e-05|0.000100000|9.9999949e-05", "%1$g|%2$g|%1$.8g", 0.000099999949, 0.000099999951);
-        Bench.writes("9e-05|0.0001|1e-05|-0.0001|-9e-05", "%.1g|%.1g|%.1g|%.1g|%.1g", 0.0000949, 0.0000951, 0.00001, -0.0000951, -0.0000949);
+        Bench.writes("9e-05|0.0001|1e-05|-0.0001|-9e-05", "%.1g|%.1g|%.1g|%.1g|%.1g", 0.0000949, 0.0000951, 0.00001, -0.0000951,
+            -0.0000949);
         Bench.writes("9.9999999999999991e-05", "%.17g", Math.nextDown(0.0001));
         Bench.writes("0.000100000", "%g", Math.nextDown(0.0001));
         Bench.writes("4.94066e-324|2.22507e-308", "%g|%g", Double.MIN_VALUE, Double.MIN_NORMAL);
@@ -137,8 +141,8 @@ public final class RealEdgesTest {
     private static void signsAndZeros() {
         Bench.says("+ a + before what is not below 0, blank a blank, ( parentheses instead of - (of reals)");
         for (String conversion : "e f g".split(" ")) {
-            String one = String.format("%.1" + conversion, 1.0);
-            String format = "%1$+.1" + conversion + "|%1$ .1" + conversion + "|%1$(.1" + conversion + "|%2$+.1" + conversion + "|%2$ .1" + conversion + "|%2$(.1" + conversion;
+            String one = conversion.equals("e") ? "1.0e+00" : conversion.equals("f") ? "1.0" : "1";
+            String format = "%1$+.1C|%1$ .1C|%1$(.1C|%2$+.1C|%2$ .1C|%2$(.1C".replace("C", conversion);
             Bench.writes("+" + one + "| " + one + "|" + one + "|-" + one + "|-" + one + "|(" + one + ")", format, 1.0, -1.0);
         }
         Bench.writes("+0x1.0p0| 0x1.0p0|-0x1.0p0|-0x1.0p0", "%1$+a|%1$ a|%2$+a|%2$ a", 1.0, -1.0);
@@ -153,10 +157,12 @@ public final class RealEdgesTest {
 
     private static void notANumber() {
         Bench.says("NaN (without sign) as such, but not filled with 0");
-        for (Object nan : new Object[] {Double.NaN, Double.longBitsToDouble(-1L), Double.longBitsToDouble(0x7FF0000000000001L), Float.NaN, Float.intBitsToFloat(-1)}) {
+        for (Object nan : new Object[] {Double.NaN, Double.longBitsToDouble(-1L), Double.longBitsToDouble(0x7FF0000000000001L),
+            Float.NaN, Float.intBitsToFloat(-1)}) {
             for (String c : "e f g".split(" ")) {
                 Bench.writes("NaN|NaN|NaN|NaN", "%1$" + c + "|%1$+" + c + "|%1$ " + c + "|%1$(" + c, nan);
-                Bench.writes("NaN|NaN| NaN|NaN | NaN|  NaN", "%1$2" + c + "|%1$3" + c + "|%1$4" + c + "|%1$-4" + c + "|%1$04" + c + "|%1$+05" + c, nan);
+                Bench.writes("NaN|NaN| NaN|NaN | NaN|  NaN",
+                    "%1$2" + c + "|%1$3" + c + "|%1$4" + c + "|%1$-4" + c + "|%1$04" + c + "|%1$+05" + c, nan);
                 Bench.writes("NaN|NaN", "%1$.0" + c + "|%1$.1" + c, nan);
             }
             Bench.writes("NaN|NaN|NaN| NaN|NaN", "%1$a|%1$+a|%1$ a|%1$04a|%1$.1a", nan);
@@ -169,7 +175,8 @@ public final class RealEdgesTest {
         for (Object large : new Object[] {Double.POSITIVE_INFINITY, Float.POSITIVE_INFINITY}) {
             for (String c : "e f g".split(" ")) {
                 Bench.writes("Infinity|+Infinity| Infinity|Infinity", "%1$" + c + "|%1$+" + c + "|%1$ " + c + "|%1$(" + c, large);
-                Bench.writes("Infinity| Infinity|Infinity | Infinity|  +Infinity", "%1$8" + c + "|%1$9" + c + "|%1$-9" + c + "|%1$09" + c + "|%1$+011" + c, large);
+                Bench.writes("Infinity| Infinity|Infinity | Infinity|  +Infinity",
+                    "%1$8" + c + "|%1$9" + c + "|%1$-9" + c + "|%1$09" + c + "|%1$+011" + c, large);
                 Bench.writes("Infinity|Infinity", "%1$.0" + c + "|%1$.1" + c, large);
             }
             Bench.writes("Infinity|+Infinity| Infinity|  Infinity|Infinity", "%1$a|%1$+a|%1$ a|%1$010a|%1$.1a", large);
@@ -177,7 +184,8 @@ public final class RealEdgesTest {
         for (Object low : new Object[] {Double.NEGATIVE_INFINITY, Float.NEGATIVE_INFINITY}) {
             for (String c : "e f g".split(" ")) {
                 Bench.writes("-Infinity|-Infinity|-Infinity|(Infinity)", "%1$" + c + "|%1$+" + c + "|%1$ " + c + "|%1$(" + c, low);
-                Bench.writes("-Infinity| -Infinity| -Infinity| (Infinity)", "%1$9" + c + "|%1$10" + c + "|%1$010" + c + "|%1$(011" + c, low);
+                Bench.writes("-Infinity| -Infinity| -Infinity| (Infinity)",
+                    "%1$9" + c + "|%1$10" + c + "|%1$010" + c + "|%1$(011" + c, low);
             }
             Bench.writes("-Infinity|  -Infinity|-INFINITY", "%1$a|%1$011a|%1$A", low);
         }
@@ -197,7 +205,8 @@ public final class RealEdgesTest {
     private static void sixteens() {
         Bench.says("a: 0x1. and digits of sixteen, p, the exponent; without the last zeros, but one digit");
         Bench.writes("0x1.0p0|0x1.8p0|0x1.8p1|0x1.0p4|0x1.0p-1|-0x1.0p0", "%a|%a|%a|%a|%a|%a", 1.0, 1.5, 3.0, 16.0, 0.5, -1.0);
-        Bench.writes("0x1.0000000000001p0|0x1.fffffffffffffp-1|0x1.fp0|0x1.08p0", "%a|%a|%a|%a", Math.nextUp(1.0), Math.nextDown(1.0), 1.9375, 1.03125);
+        Bench.writes("0x1.0000000000001p0|0x1.fffffffffffffp-1|0x1.fp0|0x1.08p0", "%a|%a|%a|%a", Math.nextUp(1.0),
+            Math.nextDown(1.0), 1.9375, 1.03125);
         Bench.writes("0x1.fffffffffffffp1023|0x1.0p1023|0x1.0p-1022", "%a|%a|%a", Double.MAX_VALUE, 0x1.0p1023, Double.MIN_NORMAL);
         Bench.writes("0X1.ABCDEFP0|0x1.abcdefp0", "%1$A|%1$a", 0x1.abcdefp0);
         Bench.says("a: 0x0.0p0");
@@ -208,16 +217,21 @@ public final class RealEdgesTest {
 
     private static void sixteensSubnormal() {
         Bench.says("a: subnormal ones 0x0. .. p-1022");
-        Bench.writes("0x0.0000000000001p-1022|0x0.fffffffffffffp-1022|0x0.8p-1022", "%a|%a|%a", Double.MIN_VALUE, LARGEST_SUBNORMAL, Double.MIN_NORMAL / 2);
+        Bench.writes("0x0.0000000000001p-1022|0x0.fffffffffffffp-1022|0x0.8p-1022", "%a|%a|%a", Double.MIN_VALUE, LARGEST_SUBNORMAL,
+            Double.MIN_NORMAL / 2);
         Bench.writes("-0x0.0000000000001p-1022|0x0.000000000001p-1022", "%a|%a", -Double.MIN_VALUE, 16 * Double.MIN_VALUE);
         Bench.writes("0x1.0p-1022|0x1.0000000000001p-1022", "%a|%a", Double.MIN_NORMAL, Math.nextUp(Double.MIN_NORMAL));
         Bench.says("a: subnormal ones may become 0x1. .. p-1022");
-        Bench.writes("0x1.0p-1022|0x1.000p-1022|0x1.000000000000p-1022|0x0.fffffffffffffp-1022|0x0.fffffffffffff0p-1022", "%1$.1a|%1$.3a|%1$.12a|%1$.13a|%1$.14a",
+        Bench.writes("0x1.0p-1022|0x1.000p-1022|0x1.000000000000p-1022|0x0.fffffffffffffp-1022|0x0.fffffffffffff0p-1022",
+            "%1$.1a|%1$.3a|%1$.12a|%1$.13a|%1$.14a",
             LARGEST_SUBNORMAL);
-        Bench.writes("0x1.0p-1022|0x0.f8p-1022|0x0.fp-1022|0x1.0p-1022", "%1$.1a|%1$.2a|%2$.1a|%3$.0a", 0x0.f8p-1022, 0x0.f7fffffffffffp-1022, 0x0.f8p-1022);
+        Bench.writes("0x1.0p-1022|0x0.f8p-1022|0x0.fp-1022|0x1.0p-1022", "%1$.1a|%1$.2a|%2$.1a|%3$.0a", 0x0.f8p-1022,
+            0x0.f7fffffffffffp-1022, 0x0.f8p-1022);
         Bench.says("a: rounded, a half to the even one (subnormal)");
-        Bench.writes("0x0.0p-1022|0x0.2p-1022|0x0.2p-1022|0x0.1p-1022", "%.1a|%.1a|%.1a|%.1a", 0x0.08p-1022, 0x0.18p-1022, 0x0.28p-1022, 0x0.0800000000001p-1022);
-        Bench.writes("0x0.0p-1022|0x0.000000000000p-1022|0x0.0000000000001p-1022|-0x0.0p-1022", "%1$.1a|%1$.12a|%1$.13a|%2$.1a", Double.MIN_VALUE, -Double.MIN_VALUE);
+        Bench.writes("0x0.0p-1022|0x0.2p-1022|0x0.2p-1022|0x0.1p-1022", "%.1a|%.1a|%.1a|%.1a", 0x0.08p-1022, 0x0.18p-1022,
+            0x0.28p-1022, 0x0.0800000000001p-1022);
+        Bench.writes("0x0.0p-1022|0x0.000000000000p-1022|0x0.0000000000001p-1022|-0x0.0p-1022", "%1$.1a|%1$.12a|%1$.13a|%2$.1a",
+            Double.MIN_VALUE, -Double.MIN_VALUE);
     }
 
     private static void sixteensRounded() {
@@ -226,8 +240,10 @@ public final class RealEdgesTest {
         Bench.writes("0x1.5p0|0x1.5p0|0x1.55p0|0x1.555555555555p0|0x1.5555555555555p0", "%1$.0a|%1$.1a|%1$.2a|%1$.12a|%1$.13a", 4.0 / 3);
         Bench.says("rounded, a half to the even one");
         Bench.writes("0x1.0p0|0x1.2p0|0x1.2p0|0x1.4p0", "%.1a|%.1a|%.1a|%.1a", 0x1.08p0, 0x1.18p0, 0x1.28p0, 0x1.38p0);
-        Bench.writes("0x1.0p0|0x1.1p0|0x1.1p0|0x1.2p0", "%.1a|%.1a|%.1a|%.1a", 0x1.07fffffffffffp0, 0x1.0800000000001p0, 0x1.17fffffffffffp0, 0x1.1800000000001p0);
-        Bench.writes("0x1.000000000000p0|0x1.000000000002p0|0x1.000000000001p0", "%.12a|%.12a|%.12a", 0x1.0000000000008p0, 0x1.0000000000018p0, 0x1.0000000000009p0);
+        Bench.writes("0x1.0p0|0x1.1p0|0x1.1p0|0x1.2p0", "%.1a|%.1a|%.1a|%.1a", 0x1.07fffffffffffp0, 0x1.0800000000001p0,
+            0x1.17fffffffffffp0, 0x1.1800000000001p0);
+        Bench.writes("0x1.000000000000p0|0x1.000000000002p0|0x1.000000000001p0", "%.12a|%.12a|%.12a", 0x1.0000000000008p0,
+            0x1.0000000000018p0, 0x1.0000000000009p0);
         Bench.says("(0x1.f8p3 is 0x1.0p4 by 1)");
         Bench.writes("0x1.0p4|0x1.0p4|0x1.f8p3|-0x1.0p4", "%1$.1a|%1$.0a|%1$.2a|%2$.1a", 0x1.f8p3, -0x1.f8p3);
         Bench.writes("0x1.fp3|0x1.ep3|0x1.ep3", "%.1a|%.1a|%.1a", 0x1.f7fffffffffffp3, 0x1.e8p3, 0x1.d8p3);
@@ -240,37 +256,49 @@ public final class RealEdgesTest {
         Bench.writes("0x1.55555555555550p0|0x1.80000000000000p0", "%1$.14a|%2$.14a", 4.0 / 3, 1.5);
         Bench.writes("0x1.8" + "0".repeat(1099) + "p0", "%.1100a", 1.5);
         Bench.says("REALS of 32 bits as those of 64");
-        Bench.writes("0x1.0p-149|0x1.0p-126|0x1.fffffep127|0x1.fffffcp-127", "%a|%a|%a|%a", Float.MIN_VALUE, Float.MIN_NORMAL, Float.MAX_VALUE, 0x1.fffffcp-127f);
+        Bench.writes("0x1.0p-149|0x1.0p-126|0x1.fffffep127|0x1.fffffcp-127", "%a|%a|%a|%a", Float.MIN_VALUE, Float.MIN_NORMAL,
+            Float.MAX_VALUE, 0x1.fffffcp-127f);
         Bench.writes("0x1.99999ap-4|0x1.ap-4|0x1.0p-148|0x1.8p-148", "%1$a|%1$.1a|%2$a|%3$a", 0.1f, 0x1.0p-148f, 0x1.8p-148f);
         Bench.writes("0.10000000149011612|1.401298464324817e-45", "%.17f|%.15e", 0.1f, Float.MIN_VALUE);
     }
 
     private static void specialsByS() {
         Bench.says("3 REALS by s: NaN, Infinity, -Infinity, 0.0, -0.0");
-        Bench.writes("NaN|Infinity|-Infinity|0.0|-0.0", "%s|%s|%s|%s|%s", Double.NaN, Double.POSITIVE_INFINITY, Double.NEGATIVE_INFINITY, 0.0, -0.0);
-        Bench.writes("NaN|Infinity|-Infinity|0.0|-0.0", "%s|%s|%s|%s|%s", Float.NaN, Float.POSITIVE_INFINITY, Float.NEGATIVE_INFINITY, 0.0f, -0.0f);
+        Bench.writes("NaN|Infinity|-Infinity|0.0|-0.0", "%s|%s|%s|%s|%s", Double.NaN, Double.POSITIVE_INFINITY,
+            Double.NEGATIVE_INFINITY, 0.0, -0.0);
+        Bench.writes("NaN|Infinity|-Infinity|0.0|-0.0", "%s|%s|%s|%s|%s", Float.NaN, Float.POSITIVE_INFINITY,
+            Float.NEGATIVE_INFINITY, 0.0f, -0.0f);
         Bench.writes("NaN|NaN", "%s|%s", Double.longBitsToDouble(-1L), Float.intBitsToFloat(-1));
     }
 
     private static void shortest() {
         Bench.says("3 of the decimals that read back as it the shortest of at least two digits, of these the nearest");
         Bench.writes("1.0|0.1|0.3|0.30000000000000004|-2.5", "%s|%s|%s|%s|%s", 1.0, 0.1, 0.3, 0.1 + 0.2, -2.5);
-        Bench.writes("4.9E-324|9.9E-324|1.5E-323|2.0E-323|2.5E-323", "%s|%s|%s|%s|%s", 0x1p-1074, 0x2p-1074, 0x3p-1074, 0x4p-1074, 0x5p-1074);
-        Bench.writes("1.7976931348623157E308|2.2250738585072014E-308|2.225073858507201E-308", "%s|%s|%s", Double.MAX_VALUE, Double.MIN_NORMAL, LARGEST_SUBNORMAL);
+        Bench.writes("4.9E-324|9.9E-324|1.5E-323|2.0E-323|2.5E-323", "%s|%s|%s|%s|%s", 0x1p-1074, 0x2p-1074, 0x3p-1074, 0x4p-1074,
+            0x5p-1074);
+        Bench.writes("1.7976931348623157E308|2.2250738585072014E-308|2.225073858507201E-308", "%s|%s|%s", Double.MAX_VALUE,
+            Double.MIN_NORMAL, LARGEST_SUBNORMAL);
         Bench.writes("1.0E23|9.999999999999997E22|1.0000000000000001E23", "%s|%s|%s", 1E23, Math.nextDown(1E23), Math.nextUp(1E23));
-        Bench.writes("2.0E23|8.41E21|9.007199254740992E15|9.007199254740994E15", "%s|%s|%s|%s", 2E23, 8.41E21, 0x1p53, 0x1.0000000000001p53);
-        Bench.writes("1.4E-45|2.8E-45|4.2E-45|3.4028235E38|1.1754944E-38|1.1754942E-38", "%s|%s|%s|%s|%s|%s", 0x1p-149f, 0x1p-148f, 0x3p-149f, Float.MAX_VALUE,
+        Bench.writes("2.0E23|8.41E21|9.007199254740992E15|9.007199254740994E15", "%s|%s|%s|%s", 2E23, 8.41E21, 0x1p53,
+            0x1.0000000000001p53);
+        Bench.writes("1.4E-45|2.8E-45|4.2E-45|3.4028235E38|1.1754944E-38|1.1754942E-38", "%s|%s|%s|%s|%s|%s", 0x1p-149f, 0x1p-148f,
+            0x3p-149f, Float.MAX_VALUE,
             Float.MIN_NORMAL, Math.nextDown(Float.MIN_NORMAL));
-        Bench.writes("0.1|0.3|1.6777216E7|3.3554432E7|9.999999E9|1.0E10", "%s|%s|%s|%s|%s|%s", 0.1f, 0.3f, 16777216f, 33554432f, Math.nextDown(1E10f), 1E10f);
+        Bench.writes("0.1|0.3|1.6777216E7|3.3554432E7|9.999999E9|1.0E10", "%s|%s|%s|%s|%s|%s", 0.1f, 0.3f, 16777216f, 33554432f,
+            Math.nextDown(1E10f), 1E10f);
     }
 
     private static void shortestLayout() {
         Bench.says("3 from 0.001 on and below 10000000 with a point and a digit on both sides, else d.ddEn");
-        Bench.writes("0.001|9.999999999999998E-4|0.0010000000000000002|-0.001|9.99E-4", "%s|%s|%s|%s|%s", 0.001, Math.nextDown(0.001), Math.nextUp(0.001), -0.001, 0.000999);
-        Bench.writes("9999999.0|1.0E7|9999999.999999998|1.0000000000000002E7|-1.0E7", "%s|%s|%s|%s|%s", 9999999.0, 1E7, Math.nextDown(1E7), Math.nextUp(1E7), -1E7);
-        Bench.writes("0.001|9.999999E-4|0.0010000002|9999999.0|1.0E7|1.0000001E7", "%s|%s|%s|%s|%s|%s", 0.001f, Math.nextDown(0.001f), 0.0010000002f, 9999999f, 1E7f,
+        Bench.writes("0.001|9.999999999999998E-4|0.0010000000000000002|-0.001|9.99E-4", "%s|%s|%s|%s|%s", 0.001,
+            Math.nextDown(0.001), Math.nextUp(0.001), -0.001, 0.000999);
+        Bench.writes("9999999.0|1.0E7|9999999.999999998|1.0000000000000002E7|-1.0E7", "%s|%s|%s|%s|%s", 9999999.0, 1E7,
+            Math.nextDown(1E7), Math.nextUp(1E7), -1E7);
+        Bench.writes("0.001|9.999999E-4|0.0010000002|9999999.0|1.0E7|1.0000001E7", "%s|%s|%s|%s|%s|%s", 0.001f,
+            Math.nextDown(0.001f), 0.0010000002f, 9999999f, 1E7f,
             Math.nextUp(1E7f));
-        Bench.writes("100.0|12.0|0.5|1234567.0|0.0123|1.0E-5|1.5E10|1.0E100|1.0E-100", "%s|%s|%s|%s|%s|%s|%s|%s|%s", 100.0, 12.0, 0.5, 1234567.0, 0.0123, 1E-5, 1.5E10, 1E100,
+        Bench.writes("100.0|12.0|0.5|1234567.0|0.0123|1.0E-5|1.5E10|1.0E100|1.0E-100", "%s|%s|%s|%s|%s|%s|%s|%s|%s", 100.0, 12.0,
+            0.5, 1234567.0, 0.0123, 1E-5, 1.5E10, 1E100,
             1E-100);
     }
 
@@ -278,7 +306,8 @@ public final class RealEdgesTest {
     private static void shortestOfTwo() {
         Bench.says("3 of two the one with an even last digit");
         Bench.writes("2097152.2|2097152.8|-2097153.2|-2097153.8", "%s|%s|%s|%s", 2097152.25f, 2097152.75f, -2097153.25f, -2097153.75f);
-        Bench.writes("1.1258999068426242E15|1.1258999068426248E15|1.1258999068426252E15", "%s|%s|%s", 1125899906842624.25, 1125899906842624.75, 1125899906842625.25);
+        Bench.writes("1.1258999068426242E15|1.1258999068426248E15|1.1258999068426252E15", "%s|%s|%s", 1125899906842624.25,
+            1125899906842624.75, 1125899906842625.25);
         Bench.says("3 of the decimals that read back as it (below a power of two the next real is nearer)");
         Bench.writes("5.684341886080802E-14|6.189700196426902E26", "%s|%s", 0x1p-44, 0x1p89);
         Bench.writes("1.608611746708759E-86|8.843436600416711E-75", "%s|%s", 0x1p-285, 0x1p-246);

@@ -85,8 +85,10 @@ public final class TermEdgesTest {
         sound("%1$d", "%12$d", "%123$d", "%1234$d", "%9999$d", "%1d", "%12d", "%123d", "%1234d", "%.1f", "%.12f", "%.123f", "%.1000f");
         sound("%9999$1999.0999f", "%1$-1000.1100f");
         Bench.says("(or a NUMBER of five digits): 1");
-        faulty(1, "%12345$d", "%99999$d", "%10000$d", "%123456$d", "%12345d", "%10000d", "%123456d", "%.10000f", "%.00000f", "%.00001f", "%.12345f");
-        faulty(1, "%-12345d", "%012345d", "%5.12345f", "%12345.5f", "%1$12345d", "%<12345d", "%99999999999d", "%4294967297$d", "%.4294967297f");
+        faulty(1, "%12345$d", "%99999$d", "%10000$d", "%123456$d", "%12345d", "%10000d", "%123456d", "%.10000f", "%.00000f",
+            "%.00001f", "%.12345f");
+        faulty(1, "%-12345d", "%012345d", "%5.12345f", "%12345.5f", "%1$12345d", "%<12345d", "%99999999999d", "%4294967297$d",
+            "%.4294967297f");
         Bench.says("A NUMBER is of one to four digits (none is none)");
         faulty(1, "%$d", "%.f", "%5.f", "%.d", "%-.f", "%1$.f", "%.$d");
     }
@@ -145,8 +147,10 @@ public final class TermEdgesTest {
 
     private static void fault1() {
         Bench.says("1 no CONVERSION there, or the end");
-        faulty(1, "%", "%5", "%-", "%-5", "%.", "%.5", "%5.5", "%1$", "%<", "%1$5", "%<-5", "%t", "%T", "%5t", "%1$-5T", "%0", "%05", "% ", "%#", "%(");
-        faulty(1, "%y", "%5y", "%.5y", "%1$y", "%<y", "%D", "%O", "%F", "%N", "%i", "%u", "%h", "%H", "%tE", "%th", "%tc", "%tz", "%tN", "%t5", "%t%", "%t ");
+        faulty(1, "%", "%5", "%-", "%-5", "%.", "%.5", "%5.5", "%1$", "%<", "%1$5", "%<-5", "%t", "%T", "%5t", "%1$-5T", "%0",
+            "%05", "% ", "%#", "%(");
+        faulty(1, "%y", "%5y", "%.5y", "%1$y", "%<y", "%D", "%O", "%F", "%N", "%i", "%u", "%h", "%H", "%tE", "%th", "%tc", "%tz",
+            "%tN", "%t5", "%t%", "%t ");
         faulty(1, "%\0", "%\177", "%!", "%*d", "%ld", "%'d", "%_d", "%:d");
         Bench.says("(or 0 $ ): 1");
         faulty(1, "%0$d", "%0$s", "%0$%", "%0$n", "%0$");
@@ -168,16 +172,18 @@ public final class TermEdgesTest {
     private static void fault2() {
         Bench.says("2 a FLAG twice");
         for (char flag : FLAGS.toCharArray()) {
-            faulty(2, "%" + flag + flag + "9f", "%" + flag + flag + flag + "9f", "%1$" + flag + "," + flag + "9f", "%<" + flag + "(" + flag + "9f");
+            faulty(2, "%" + flag + flag + "9f", "%" + flag + flag + flag + "9f", "%1$" + flag + "," + flag + "9f",
+                "%<" + flag + "(" + flag + "9f");
         }
         sound("%+(,09.3f", "% #,(9.3f", "%-+#,(9.3f");
     }
 
     private static void fault3() {
-        Bench.says("3 FLAGS that the CONVERSION does not take: b s c t only -; n none; % only -; d ...; o x ...; e ...; f ...; g ...; a ...");
+        Bench.says("3 FLAGS that the CONVERSION does not take: b s c t only -; n none; % only -; d ...; o x ...; e ...; f ...");
         String[] conversions = {"b", "B", "s", "S", "c", "C", "tH", "TH", "n", "%", "d", "o", "x", "X", "e", "E", "f", "g", "G", "a", "A"};
         String[] taken = {
-            "-", "-", "-", "-", "-", "-", "-", "-", "", "-", "-+ 0,(", "-#0", "-#0", "-#0", "-#+ 0(", "-#+ 0(", "-#+ 0,(", "-+ 0,(", "-+ 0,(", "-#+ 0",
+            "-", "-", "-", "-", "-", "-", "-", "-", "", "-", "-+ 0,(", "-#0", "-#0", "-#0", "-#+ 0(", "-#+ 0(", "-#+ 0,(", "-+ 0,(",
+            "-+ 0,(", "-#+ 0",
             "-#+ 0",
         };
         for (int i = 0; i < conversions.length; i++) {
@@ -227,9 +233,11 @@ public final class TermEdgesTest {
 
     private static void firstOfTheFaults() {
         Bench.says("FAULTS of a SPEC, the first that is so of");
-        faulty(1, "%--5q", "%--2001d", "%,2001e", "%#.1101d", "%-.1101f", "%0.1101f", "%-02001d", "%+ 2001d", "%2001n", "%.1101d", "%--00#12345d", "%0$-d");
+        faulty(1, "%--5q", "%--2001d", "%,2001e", "%#.1101d", "%-.1101f", "%0.1101f", "%-02001d", "%+ 2001d", "%2001n", "%.1101d",
+            "%--00#12345d", "%0$-d");
         faulty(2, "%##5d", "%##5s", "%--d", "%00d", "%--05d", "%-0-5d", "%++ d", "%+ +d", "%--5n", "%--5.1d", "%,,.1x", "%((5n");
-        faulty(3, "%-#d", "%0s", "%0c", "%-#05d", "%#+ d", "%-05s", "%-n", "%-5n", "%#5.1n", "%#.1d", "%+.1x", "%-0n", "%+ x", "%0%", "%-0%");
+        faulty(3, "%-#d", "%0s", "%0c", "%-#05d", "%#+ d", "%-05s", "%-n", "%-5n", "%#5.1n", "%#.1d", "%+.1x", "%-0n", "%+ x",
+            "%0%", "%-0%");
         faulty(4, "%-0d", "%0-d", "%0+ d", "%-+ d", "%-.1d", "%0.1x", "%-.1%", "%-.1tH", "%-0.1d");
         faulty(5, "%-05.1d", "%+ .1d", "%0-5.0x", "% +5.1d");
         faulty(6, "%5.1n", "%2000.1100n");
@@ -299,13 +307,16 @@ public final class TermEdgesTest {
 
     private static void fault9() {
         Object[] arguments = {null, true, 'c', (byte) 65, (short) 65, 65, 65L, 1.0, 1.0f, "t"};
-        String[] conversions = {"b", "B", "s", "S", "c", "C", "d", "o", "x", "X", "e", "E", "f", "g", "G", "a", "A", "tH", "tQ", "TH", "TF"};
+        String[] conversions = {"b", "B", "s", "S", "c", "C", "d", "o", "x", "X", "e", "E", "f", "g", "G", "a", "A", "tH", "tQ",
+            "TH", "TF"};
         String[] taken = {
-            "1111111111", "1111111111", "1111111111", "1111111111", "1011110000", "1011110000", "1001111000", "1001111000", "1001111000", "1001111000",
-            "1000000110", "1000000110", "1000000110", "1000000110", "1000000110", "1000000110", "1000000110", "1000001000", "1000001000", "1000001000",
+            "1111111111", "1111111111", "1111111111", "1111111111", "1011110000", "1011110000", "1001111000", "1001111000",
+            "1001111000", "1001111000",
+            "1000000110", "1000000110", "1000000110", "1000000110", "1000000110", "1000000110", "1000000110", "1000001000",
+            "1000001000", "1000001000",
             "1000001000",
         };
-        Bench.says("9 an ARGUMENT of another kind: c takes CHARACTERS and WHOLE ones of 8, 16, 32 bits; d o x ...; e f g a ...; t T ...; b and s all; nothing goes with all");
+        Bench.says("9 an ARGUMENT of another kind: c takes CHARACTERS and WHOLE ones of 8, 16, 32 bits; ... nothing goes with all");
         for (int i = 0; i < conversions.length; i++) {
             for (int k = 0; k < arguments.length; k++) {
                 String written = Bench.written("xy%" + conversions[i], arguments[k]);
@@ -345,7 +356,8 @@ public final class TermEdgesTest {
         Bench.writes("fault 11 at 34", full + "0123456789%%", 1);
         Bench.same("the line's end is the last", Bench.written(full + "012345678%n", 1).length(), 6000);
         Bench.same("nothing behind the last", Bench.written(full + "0123456789%2$s", 1, "").length(), 6000);
-        Bench.same("bytes, not characters", Bench.written(full + "0123456%2$c", 1, '\u20ac').getBytes(java.nio.charset.StandardCharsets.UTF_8).length, 6000);
+        Bench.same("bytes, not characters", Bench.written(full + "0123456%2$c", 1,
+            '\u20ac').getBytes(java.nio.charset.StandardCharsets.UTF_8).length, 6000);
         Bench.writes("fault 11 at 32", full + "01234567%2$c", 1, '\u20ac');
         Bench.writes("fault 11 at 24", full + "%2$9c", 1, '\u20ac');
         Bench.writes("fault 11 at 24", full + "%.8f", 12.0);

@@ -67,7 +67,8 @@ public final class WriteEdgesTest {
         Bench.writes(all + "|" + due, "%1$s|%1$S", all.toString());
         Bench.writes("A|Z|`|{|@|[", "%C|%C|%C|%C|%C|%C", 'a', 'z', '`', '{', '@', '[');
         Bench.writes("\u00e9|\u00ff|\u00e0|\u0101|\u03b1", "%C|%C|%C|%C|%S", '\u00e9', '\u00ff', '\u00e0', '\u0101', '\u03b1');
-        Bench.writes("TRUE|FALSE|0XABCDEF|1.0E+00|1.00000|0X1.8P1|1.0E10", "%B|%B|%#X|%.1E|%G|%A|%S", true, false, 0xABCDEF, 1.0, 1.0, 3.0, 1E10);
+        Bench.writes("TRUE|FALSE|0XABCDEF|1.0E+00|1.00000|0X1.8P1|1.0E10", "%B|%B|%#X|%.1E|%G|%A|%S", true, false, 0xABCDEF, 1.0,
+            1.0, 3.0, 1E10);
         Bench.writes("NAN|INFINITY|NULL|JANUARY|AM|THU", "%E|%G|%S|%TB|%4$Tp|%4$Ta", Double.NaN, Double.POSITIVE_INFINITY, null, 0L);
     }
 
@@ -84,7 +85,8 @@ public final class WriteEdgesTest {
         Bench.writes("null|null|null|null|null|null", "%1$+d|%1$ d|%1$,d|%1$(d|%1$#x|%1$#f", (Object) null);
         Bench.says("0 fills as blanks do");
         for (String conversion : "d o x e f g a".split(" ")) {
-            Bench.writes("null|null| null|    null", "%1$03" + conversion + "|%1$04" + conversion + "|%1$05" + conversion + "|%1$08" + conversion, (Object) null);
+            Bench.writes("null|null| null|    null",
+                "%1$03" + conversion + "|%1$04" + conversion + "|%1$05" + conversion + "|%1$08" + conversion, (Object) null);
         }
     }
 
@@ -92,7 +94,8 @@ public final class WriteEdgesTest {
         Bench.says("of it and b and s the precision tells how many characters at most");
         for (String conversion : "s e f g a".split(" ")) {
             String c = conversion;
-            Bench.writes("|n|nul|null|null|null", "%1$.0" + c + "|%1$.1" + c + "|%1$.3" + c + "|%1$.4" + c + "|%1$.5" + c + "|%1$.1100" + c, (Object) null);
+            Bench.writes("|n|nul|null|null|null",
+                "%1$.0" + c + "|%1$.1" + c + "|%1$.3" + c + "|%1$.4" + c + "|%1$.5" + c + "|%1$.1100" + c, (Object) null);
         }
         Bench.writes("|f|fals|false|false|FAL", "%1$.0b|%1$.1b|%1$.4b|%1$.5b|%1$.6b|%1$.3B", (Object) null);
         Bench.writes("|t|tru|true|true", "%1$.0b|%1$.1b|%1$.3b|%1$.4b|%1$.5b", true);
@@ -192,12 +195,14 @@ public final class WriteEdgesTest {
 
     private static void commas() {
         Bench.says(", commas between threes from the right");
-        Bench.writes("0|9|99|999|1,000|9,999|99,999|999,999|1,000,000", "%,d|%,d|%,d|%,d|%,d|%,d|%,d|%,d|%,d", 0, 9, 99, 999, 1000, 9999, 99999, 999999, 1000000);
+        Bench.writes("0|9|99|999|1,000|9,999|99,999|999,999|1,000,000", "%,d|%,d|%,d|%,d|%,d|%,d|%,d|%,d|%,d", 0, 9, 99, 999, 1000,
+            9999, 99999, 999999, 1000000);
         Bench.writes("-1|-999|-1,000|-999,999|-1,000,000", "%,d|%,d|%,d|%,d|%,d", -1, -999, -1000, -999999, -1000000);
         Bench.writes("-9,223,372,036,854,775,808|9,223,372,036,854,775,807", "%,d|%,d", Long.MIN_VALUE, Long.MAX_VALUE);
         Bench.writes("-128|-32,768|-2,147,483,648", "%,d|%,d|%,d", Byte.MIN_VALUE, Short.MIN_VALUE, Integer.MIN_VALUE);
         Bench.says(", commas (of what is before the point)");
-        Bench.writes("999.1234567|1,000.1250000|1,234,567.8750000|0.0001000", "%,.7f|%,.7f|%,.7f|%,.7f", 999.1234567, 1000.125, 1234567.875, 0.0001);
+        Bench.writes("999.1234567|1,000.1250000|1,234,567.8750000|0.0001000", "%,.7f|%,.7f|%,.7f|%,.7f", 999.1234567, 1000.125,
+            1234567.875, 0.0001);
         Bench.writes("1,000|1,000,000|999,999", "%,.0f|%,.0f|%,.0f", 999.5, 999999.5, 999999.25);
         Bench.writes("123,456|1,234.50|1.23457e+06", "%,g|%,g|%,g", 123456.0, 1234.5, 1234567.0);
     }
@@ -221,13 +226,17 @@ public final class WriteEdgesTest {
     private static void otherBases() {
         Bench.says("o x: base 8, 16");
         Bench.writes("0|7|10|77|100|0|f|10|ff|100", "%o|%o|%o|%o|%o|%x|%x|%x|%x|%x", 0, 7, 8, 63, 64, 0, 15, 16, 255, 256);
-        Bench.writes("7f|7fff|7fffffff|7fffffffffffffff", "%x|%x|%x|%x", Byte.MAX_VALUE, Short.MAX_VALUE, Integer.MAX_VALUE, Long.MAX_VALUE);
-        Bench.writes("177|77777|17777777777|777777777777777777777", "%o|%o|%o|%o", Byte.MAX_VALUE, Short.MAX_VALUE, Integer.MAX_VALUE, Long.MAX_VALUE);
+        Bench.writes("7f|7fff|7fffffff|7fffffffffffffff", "%x|%x|%x|%x", Byte.MAX_VALUE, Short.MAX_VALUE, Integer.MAX_VALUE,
+            Long.MAX_VALUE);
+        Bench.writes("177|77777|17777777777|777777777777777777777", "%o|%o|%o|%o", Byte.MAX_VALUE, Short.MAX_VALUE,
+            Integer.MAX_VALUE, Long.MAX_VALUE);
         Bench.says("of those below 0 of all their bits");
         Bench.writes("ff|ffff|ffffffff|ffffffffffffffff", "%x|%x|%x|%x", (byte) -1, (short) -1, -1, -1L);
-        Bench.writes("80|8000|80000000|8000000000000000", "%x|%x|%x|%x", Byte.MIN_VALUE, Short.MIN_VALUE, Integer.MIN_VALUE, Long.MIN_VALUE);
+        Bench.writes("80|8000|80000000|8000000000000000", "%x|%x|%x|%x", Byte.MIN_VALUE, Short.MIN_VALUE, Integer.MIN_VALUE,
+            Long.MIN_VALUE);
         Bench.writes("377|177777|37777777777|1777777777777777777777", "%o|%o|%o|%o", (byte) -1, (short) -1, -1, -1L);
-        Bench.writes("200|100000|20000000000|1000000000000000000000", "%o|%o|%o|%o", Byte.MIN_VALUE, Short.MIN_VALUE, Integer.MIN_VALUE, Long.MIN_VALUE);
+        Bench.writes("200|100000|20000000000|1000000000000000000000", "%o|%o|%o|%o", Byte.MIN_VALUE, Short.MIN_VALUE,
+            Integer.MIN_VALUE, Long.MIN_VALUE);
         Bench.says("# 0, 0x before");
         Bench.writes("00|01|0377|0x0|0x1|0xff|0XFF", "%#o|%#o|%#o|%#x|%#x|%#x|%#X", 0, 1, (byte) -1, 0, 1, (byte) -1, (byte) -1);
     }
@@ -275,14 +284,15 @@ public final class WriteEdgesTest {
     }
 
     private static void years() {
-        Bench.says("Y year of four digits at least (- before it, if it is below 0)");
+        Bench.says("Y year of four digits at least (- before it, if it is below 0), y its last two, C its hundreds of two at least");
         int[] years = {0, 1, 9, 10, 99, 100, 999, 1000, 9999, 10000, 99999, 100000, -1, -9, -99, -100, -999, -9999, -10000};
         String[] dues = {
-            "0000 00 00", "0001 01 00", "0009 09 00", "0010 10 00", "0099 99 00", "0100 00 01", "0999 99 09", "1000 00 10", "9999 99 99", "10000 00 100",
-            "99999 99 999", "100000 00 1000", "-0001 01 00", "-0009 09 00", "-0099 99 00", "-0100 00 01", "-0999 99 09", "-9999 99 99", "-10000 00 100",
+            "0000 00 00", "0001 01 00", "0009 09 00", "0010 10 00", "0099 99 00", "0100 00 01", "0999 99 09", "1000 00 10",
+            "9999 99 99", "10000 00 100",
+            "99999 99 999", "100000 00 1000", "-0001 01 00", "-0009 09 00", "-0099 99 00", "-0100 00 01", "-0999 99 09",
+            "-9999 99 99", "-10000 00 100",
         };
         for (int i = 0; i < years.length; i++) {
-            Bench.says("Y year of four digits at least (- before it, if it is below 0), y its last two, C its hundreds of two at least (both without sign)");
             time(dues[i], "Y y C", firstOf(years[i]));
             time(dues[i], "Y y C", firstOf(years[i] + 1) - 1);
         }
@@ -328,7 +338,8 @@ public final class WriteEdgesTest {
 
     private static void namesAndHalves() {
         Bench.says("B A names in English, b a their first three letters");
-        String[] months = {"January", "February", "March", "April", "May", "June", "July", "August", "September", "October", "November", "December"};
+        String[] months = {"January", "February", "March", "April", "May", "June", "July", "August", "September", "October",
+            "November", "December"};
         for (int month = 1; month <= 12; month++) {
             long first = LocalDate.of(2001, month, 1).toEpochDay() * DAY;
             String name = months[month - 1];
