@@ -308,6 +308,11 @@ public final class RealEdgesTest {
         Bench.writes("2097152.2|2097152.8|-2097153.2|-2097153.8", "%s|%s|%s|%s", 2097152.25f, 2097152.75f, -2097153.25f, -2097153.75f);
         Bench.writes("1.1258999068426242E15|1.1258999068426248E15|1.1258999068426252E15", "%s|%s|%s", 1125899906842624.25,
             1125899906842624.75, 1125899906842625.25);
+        Bench.says("3 of the decimals that read back as it (one in the middle of two reals reads back as the even one alone)");
+        Bench.writes("1.01E22|1.0100000000000001E22|1.03E22|1.0299999999999999E22", "%s|%s|%s|%s", 1.01E22, Math.nextUp(1.01E22), 1.03E22,
+            Math.nextDown(1.03E22));
+        Bench.writes("1.1809E21|1.1809000000000001E21|1.1807E21|1.1806999999999999E21", "%s|%s|%s|%s", 1.1809E21, Math.nextUp(1.1809E21),
+            1.1807E21, Math.nextDown(1.1807E21));
         Bench.says("3 of the decimals that read back as it (below a power of two the next real is nearer)");
         Bench.writes("5.684341886080802E-14|6.189700196426902E26", "%s|%s", 0x1p-44, 0x1p89);
         Bench.writes("1.608611746708759E-86|8.843436600416711E-75", "%s|%s", 0x1p-285, 0x1p-246);

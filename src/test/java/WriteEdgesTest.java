@@ -200,6 +200,7 @@ public final class WriteEdgesTest {
         Bench.writes("-1|-999|-1,000|-999,999|-1,000,000", "%,d|%,d|%,d|%,d|%,d", -1, -999, -1000, -999999, -1000000);
         Bench.writes("-9,223,372,036,854,775,808|9,223,372,036,854,775,807", "%,d|%,d", Long.MIN_VALUE, Long.MAX_VALUE);
         Bench.writes("-128|-32,768|-2,147,483,648", "%,d|%,d|%,d", Byte.MIN_VALUE, Short.MIN_VALUE, Integer.MIN_VALUE);
+        Bench.writes("  1,234|1,234  |   1234|1234   |", "%1$,7d|%1$-,7d|%1$7d|%1$-7d|", 1234);
         Bench.says(", commas (of what is before the point)");
         Bench.writes("999.1234567|1,000.1250000|1,234,567.8750000|0.0001000", "%,.7f|%,.7f|%,.7f|%,.7f", 999.1234567, 1000.125,
             1234567.875, 0.0001);
